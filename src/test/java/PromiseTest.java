@@ -38,6 +38,8 @@ public final class PromiseTest {
         narrow();
         wrongCertificatesAndTimes();
         questionsChangeNothing();
+        eachPolicyAlone();
+        twelveCertificates();
         if (wrong > 0) {
             System.out.println(wrong + " wrong");
             System.exit(1);
@@ -695,5 +697,55 @@ public final class PromiseTest {
             due("keysOf(6, 0, 0)", x.keysOf(6, 0, 0), 64);
             due("count(0)", x.count(0), 7);
         }
+    }
+
+    private static void eachPolicyAlone() {
+        part = "promises 9 to 17, one common policy";
+        for (int p = 0; p < 4; p++) {
+            TrustPaths x = line(3);
+            x.set(1, 4, 1 << p);
+            due("trusted(2, 0)", x.trusted(2, 0), 1);
+            due("length(2, 0)", x.length(2, 0), 3);
+            due("step(2, 0, 1)", x.step(2, 0, 1), 1);
+            due("policies(2, 0)", x.policies(2, 0), 1 << p);
+            due("count(0)", x.count(0), 3);
+            due("until(2, 0)", x.until(2, 0), 100);
+            due("depending(1, 0)", x.depending(1, 0), 2);
+            due("narrow(2, 0)", x.narrow(2, 0), 0);
+            for (int asked = 0; asked < 4; asked++) {
+                due("keysOf(3, 0, " + asked + ")", x.keysOf(3, 0, asked), asked == p ? 8 : 0);
+            }
+        }
+    }
+
+    /** Twelve that all follow each other: the most lists that a search can meet. */
+    private static void twelveCertificates() {
+        part = "twelve certificates";
+        TrustPaths x = new TrustPaths();
+        x.anchor(2, 0);
+        for (int c = 0; c < 11; c++) {
+            x.make(0, 0);
+        }
+        due("make(1, 3)", x.make(1, 3), 11);
+        due("length(11, 0), of another key", x.length(11, 0), 1);
+        due("count(0)", x.count(0), 12);
+        due("keysOf(1, 0, 3)", x.keysOf(1, 0, 3), 8);
+        due("narrow(11, 0)", x.narrow(11, 0), NONE);
+        due("depending(11, 0)", x.depending(11, 0), 1);
+        x.anchor(2, 1);
+        due("count(0), no anchor leads in", x.count(0), 0);
+        x = new TrustPaths();
+        x.anchor(0, 0);
+        for (int c = 0; c < 11; c++) {
+            x.make(0, 0);
+        }
+        x.make(1, 13);
+        due("trusted(11, 0), all lists end before it", x.trusted(11, 0), 0);
+        due("until(11, 0)", x.until(11, 0), NONE);
+        due("policies(11, 0)", x.policies(11, 0), 0);
+        due("step(11, 0, 0)", x.step(11, 0, 0), NONE);
+        due("narrow(10, 0)", x.narrow(10, 0), NONE);
+        due("depending(10, 0)", x.depending(10, 0), 1);
+        due("count(100)", x.count(100), 11);
     }
 }
