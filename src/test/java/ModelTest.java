@@ -8,7 +8,10 @@ import java.util.List;
 public final class ModelTest {
     private static final int RUNS = 600;
     private static final int CALLS = 160;
+    private static final int MOST_CALLS = 512;
     private static final int MOST_SHOWN = 20;
+    private static final int[] EDGE_TIMES = {0, 1, 2, 49, 50, 51, 98, 99, 100};
+    private static final int[] FAR = {Integer.MIN_VALUE, Integer.MIN_VALUE + 1, -1, 256, Integer.MAX_VALUE};
 
     private static int wrong = 0;
     private static long seed = 1;
@@ -17,8 +20,8 @@ public final class ModelTest {
         for (int run = 0; run < RUNS; run++) {
             // Few names and keys make many paths; the model is too slow for more than
             // some certificates then.
-            int shape = run % 4;
-            compare(run, shape);
+            int shape = run % 5;
+            compare(run, shape, run % 12 == 3 ? MOST_CALLS : CALLS);
         }
         if (wrong > 0) {
             System.out.println(wrong + " wrong");
@@ -31,15 +34,23 @@ public final class ModelTest {
         return (int) ((seed >>> 33) % bound);
     }
 
-    private static void compare(int run, int shape) {
+    private static void compare(int run, int shape, int calls) {
         TrustPaths x = new TrustPaths();
         Model m = new Model();
         int names = shape == 0 ? 2 : shape == 1 ? 3 : shape == 2 ? 4 : 8;
         int keys = shape == 0 ? 1 : shape == 1 ? 2 : 1;
-        int most = shape == 0 ? 5 : shape == 1 ? 9 : shape == 2 ? 9 : 13;
+        int most = shape == 0 ? 5 : shape <= 2 ? 9 : 13;
+        // Mirrored, the same runs have the greatest names and keys.
+        boolean mirrored = run / 5 % 2 == 1;
         List<String> done = new ArrayList<>();
-        for (int call = 0; call < CALLS; call++) {
-            int[] a = arguments(call, names, keys, most, m.all.size(), shape == 3);
+        for (int call = 0; call < calls; call++) {
+            int[] a = arguments(call, names, keys, most, m.all.size(), shape - 2);
+            if (mirrored) {
+                mirror(a);
+            }
+            if (pick(40) == 0) {
+                a[1 + pick(a.length - 1)] = FAR[pick(FAR.length)];
+            }
             long got = answer(x, a);
             long want = m.answer(a);
             done.add(text(a) + " -> " + got);
@@ -53,27 +64,46 @@ public final class ModelTest {
         }
     }
 
-    /** The number of the method, and its arguments. */
-    private static int[] arguments(int call, int names, int keys, int most, int made, boolean line) {
+    private static void mirror(int[] a) {
+        if (a[0] == 0) {
+            a[1] = 63 - a[1];
+            a[2] = 99 - a[2];
+        } else if (a[0] == 5) {
+            a[2] = 79 - a[2];
+        } else if (a[0] == 12) {
+            a[1] = 7 - a[1];
+        }
+    }
+
+    /**
+     * The number of the method, and its arguments. With line 1 most are issued to the next name,
+     * and with line 2 each name issues in turn and the anchors are 0 and 1, which makes long paths.
+     */
+    private static int[] arguments(int call, int names, int keys, int most, int made, int line) {
         int method = call < 2 ? 5 : call < most + 2 ? 0 : pick(16);
         if (method == 0 && made >= most) {
             method = 1 + pick(15);
         }
+        // Revocations cannot be ended, and anchors that move break long paths: too many of
+        // both, and nothing is trusted.
+        if (call >= most + 2 && (method == 3 || method == 5 || method == 6) && pick(5) > 0) {
+            method = 7 + pick(9);
+        }
         int c = pick(20) == 0 ? pick(15) - 1 : pick(made == 0 ? 1 : made);
-        int time = pick(30) == 0 ? pick(2) * 102 - 1 : pick(8) * 14 + pick(2);
-        int issuer = pick(names);
-        int subject = line && pick(4) > 0 ? (issuer + 1) % names : pick(names);
+        int time = pick(30) == 0 ? pick(2) * 102 - 1 : EDGE_TIMES[pick(EDGE_TIMES.length)];
+        int issuer = line < 2 ? pick(names) : method == 0 ? 5 * made % names : pick(2);
+        int subject = line > 0 && pick(4) > 0 ? (issuer + 1) % names : pick(names);
         int issuerKey = pick(keys);
         switch (method) {
             case 0: return new int[] {0, 8 * issuer + subject, 10 * issuerKey + pick(keys)};
-            case 1: return new int[] {1, c, time / 2, pick(20) == 0 ? time / 3 : 100 - pick(60)};
+            case 1: return new int[] {1, c, pick(2) * time, pick(3) == 0 ? time : 100 - pick(52)};
             case 2: return setting(c);
-            case 3: return new int[] {3, c, time};
+            case 3: return new int[] {3, c, pick(3) == 0 ? time : 100 - pick(50)};
             case 4: return new int[] {4, c, pick(3) == 0 ? 1 : 0};
             case 5: return new int[] {5, pick(30) == 0 ? 3 : pick(3), 10 * issuer + issuerKey};
             case 6: return new int[] {pick(3) == 0 ? 6 : 5, pick(4), 10 * pick(2) + issuerKey};
             case 9: return new int[] {9, c, time, pick(8) - 1};
-            case 12: return new int[] {12, subject, time, pick(20) == 0 ? 4 : pick(4)};
+            case 12: return new int[] {12, pick(names), time, pick(20) == 0 ? 4 : pick(4)};
             default: return new int[] {method, c, time};
         }
     }
