@@ -10,6 +10,7 @@ public final class CallsTest {
         changesFirst();
         anchorsFirst();
         questionsFirst();
+        sameQuestionAlways();
         fullObject();
         slowestQuestions();
         Check.end();
@@ -90,6 +91,17 @@ public final class CallsTest {
         }
         Check.due("hold, call 511", x.hold(0, true), 0);
         Check.due("count, call 512", x.count(0), 0);
+    }
+
+    private static void sameQuestionAlways() {
+        Check.part("the same question up to call 511, and then a change");
+        for (int which = 0; which < 9; which++) {
+            TrustPaths x = Check.line(6);
+            for (int call = 8; call < CALLS; call++) {
+                Check.due("question", ask(x, which), want(which), which, call);
+            }
+            Check.due("make, call 512", x.make(0, 0), 6, which);
+        }
     }
 
     private static int ask(TrustPaths x, int which) {

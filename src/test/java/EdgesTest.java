@@ -37,6 +37,7 @@ public final class EdgesTest {
         narrowNone();
         narrowOneNotTrusted();
         narrowWayTooLong();
+        twoWaysOfOnePolicy();
         Check.end();
     }
 
@@ -680,5 +681,27 @@ public final class EdgesTest {
         Check.due("narrow(4, 0), with a limit that is kept", x.narrow(4, 0), 1);
         x.set(6, 1, 3);
         Check.due("narrow(4, 0), with a limit that rules the long way out", x.narrow(4, 0), 0);
+    }
+
+    /** Two for the first place, and a last one that has one policy alone. */
+    private static void twoWaysOfOnePolicy() {
+        Check.part("promises 15 to 17, another way that has one policy alone");
+        for (int p = 0; p < 4; p++) {
+            for (int set = 1; set < 16; set++) {
+                TrustPaths x = Check.line(2);
+                Check.link(x, 0, 1);
+                x.set(1, 4, 1 << p);
+                x.set(2, 4, set);
+                boolean other = (set >> p & 1) == 1;
+                Check.due("narrow", x.narrow(1, 0), other ? NONE : 0, p, set);
+                Check.due("depending(0, 0)", x.depending(0, 0), other ? 1 : 2, p, set);
+                Check.due("depending(2, 0)", x.depending(2, 0), 1, p, set);
+                x.times(0, 0, 49);
+                x.times(2, 50, 100);
+                Check.due("until", x.until(1, 0), other ? 100 : 49, p, set);
+                Check.due("count", x.count(50), other ? 2 : 1, p, set);
+                Check.due("step", x.step(1, 50, 0), other ? 2 : NONE, p, set);
+            }
+        }
     }
 }

@@ -5,11 +5,14 @@ import java.lang.reflect.Modifier;
 import java.nio.file.Files;
 import java.nio.file.Path;
 import java.util.Arrays;
+import java.util.Map;
 import java.util.Set;
+import java.util.TreeMap;
 import java.util.TreeSet;
+import java.util.regex.Matcher;
 import java.util.regex.Pattern;
 
-/** The members that can be seen from outside, and the rules of LANGUAGE.md that words can tell. */
+/** The members that can be seen from outside, and the rules of LANGUAGE.md that a text search can tell. */
 public final class FaceTest {
     private static final String[] FACE = {
         "public static final int BAD", "public static final int NONE", "public static final int FULL",
@@ -23,17 +26,25 @@ public final class FaceTest {
     };
     private static final String[] NOT_WORDS = {
         "import", "package", "float", "double", "String", "Math", "Integer", "System", "Arrays", "null",
-        "throw", "try", "catch", "synchronized", "assert", "instanceof", "enum", "interface", "record",
+        "throw", "try", "catch", "synchronized", "assert", "instanceof",
     };
     private static final int MOST_FIELDS = 40;
     private static final int MOST_PARAMETERS = 7;
+    private static final int MOST_LINES = 60;
+    private static final int DEEPEST = 6;
+    private static final Pattern METHOD =
+        Pattern.compile("\\b(?:public|private)[\\w\\s]*\\s(\\w+)\\s*\\([^()]*\\)\\s*\\{");
+    private static final Pattern CALL = Pattern.compile("\\b(\\w+)\\(");
 
     private static int wrong = 0;
 
     public static void main(String[] args) throws Exception {
         face();
         privateMembers();
-        words();
+        String source = Files.readString(Path.of("src/main/java/TrustPaths.java"));
+        String code = source.replaceAll("(?s)/\\*.*?\\*/", "").replaceAll("//[^\n]*", "");
+        words(code);
+        calls(code);
         if (wrong > 0) {
             System.exit(1);
         }
@@ -104,9 +115,12 @@ public final class FaceTest {
             fault("the class has " + fields + " fields");
         }
         Set<String> names = new TreeSet<>();
+        for (Method m : TrustPaths.class.getMethods()) {
+            names.add(m.getName());
+        }
         for (Method m : TrustPaths.class.getDeclaredMethods()) {
-            if (!names.add(m.getName())) {
-                fault("two methods are named " + m.getName());
+            if (Modifier.isPrivate(m.getModifiers()) && names.contains(m.getName())) {
+                fault("a private method bears the name of a public one: " + m.getName());
             }
             if (m.getParameterCount() > MOST_PARAMETERS) {
                 fault(m.getName() + " takes too many parameters");
@@ -114,21 +128,77 @@ public final class FaceTest {
         }
     }
 
-    private static void words() throws Exception {
-        String source = Files.readString(Path.of("src/main/java/TrustPaths.java"));
-        String code = source.replaceAll("(?s)/\\*.*?\\*/", "").replaceAll("//[^\n]*", "");
+    private static void words(String code) {
         for (String word : NOT_WORDS) {
             if (Pattern.compile("\\b" + word + "\\b").matcher(code).find()) {
                 fault("the source has the word " + word);
             }
         }
-        if (code.contains("->") || code.contains("::") || code.contains("\"")) {
+        boolean lambda = Pattern.compile("(?m)^(?!.*\\b(case|default)\\b).*->").matcher(code).find();
+        if (lambda || code.contains("::") || code.contains("\"")) {
             fault("the source has a lambda, a method reference or a text");
         }
-        for (String line : code.split("\n")) {
-            if (line.contains("new ") && !line.startsWith("    private final ")) {
-                fault("something is made outside a field's initialiser: " + line.trim());
+    }
+
+    private static void calls(String code) {
+        Map<String, String> bodies = new TreeMap<>();
+        Matcher method = METHOD.matcher(code);
+        while (method.find()) {
+            String name = method.group(1);
+            String body = upTo(code, method.end(), '{', '}');
+            bodies.merge(name, body, String::concat);
+            if (body.split("\n").length > MOST_LINES) {
+                fault(name + " is too long");
+            }
+            if (!name.equals("TrustPaths") && Pattern.compile("\\bnew\\b").matcher(body).find()) {
+                fault(name + " makes something");
             }
         }
+        for (Method m : TrustPaths.class.getDeclaredMethods()) {
+            if (!bodies.containsKey(m.getName())) {
+                fault("the source of " + m.getName() + " was not found");
+            }
+        }
+        for (String name : bodies.keySet()) {
+            plainArguments(name, bodies);
+            if (depth(name, bodies, 1) > DEEPEST) {
+                fault("calls from " + name + " go too deep, or in a ring");
+            }
+        }
+    }
+
+    /** No call stands inside the arguments of another. */
+    private static void plainArguments(String name, Map<String, String> bodies) {
+        String body = bodies.get(name);
+        Matcher call = CALL.matcher(body);
+        while (call.find()) {
+            String arguments = upTo(body, call.end(), '(', ')');
+            if (bodies.containsKey(call.group(1)) && CALL.matcher(arguments).find()) {
+                fault(name + " has a call inside a call: " + call.group(1) + "(" + arguments);
+            }
+        }
+    }
+
+    /** From a place after an opening sign up to the sign that closes it. */
+    private static String upTo(String text, int from, char opening, char closing) {
+        int open = 1;
+        int at = from;
+        while (open > 0) {
+            open += text.charAt(at) == opening ? 1 : text.charAt(at) == closing ? -1 : 0;
+            at++;
+        }
+        return text.substring(from, at);
+    }
+
+    /** How many methods deep the calls go, this one counted; a ring goes deeper than is allowed. */
+    private static int depth(String name, Map<String, String> bodies, int above) {
+        int deepest = above;
+        Matcher call = CALL.matcher(bodies.get(name));
+        while (above <= DEEPEST && call.find()) {
+            if (bodies.containsKey(call.group(1))) {
+                deepest = Math.max(deepest, depth(call.group(1), bodies, above + 1));
+            }
+        }
+        return deepest;
     }
 }

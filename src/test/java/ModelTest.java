@@ -80,13 +80,13 @@ public final class ModelTest {
      * and with line 2 each name issues in turn and the anchors are 0 and 1, which makes long paths.
      */
     private static int[] arguments(int call, int names, int keys, int most, int made, int line) {
-        int method = call < 2 ? 5 : call < most + 2 ? 0 : pick(16);
+        int method = call < 2 ? 5 : call < 2 * most && pick(4) > 0 ? 0 : pick(16);
         if (method == 0 && made >= most) {
             method = 1 + pick(15);
         }
         // Revocations cannot be ended, and anchors that move break long paths: too many of
         // both, and nothing is trusted.
-        if (call >= most + 2 && (method == 3 || method == 5 || method == 6) && pick(5) > 0) {
+        if (call >= 2 && (method == 3 || method == 5 || method == 6) && pick(5) > 0) {
             method = 7 + pick(9);
         }
         int c = pick(20) == 0 ? pick(15) - 1 : pick(made == 0 ? 1 : made);

@@ -29,6 +29,7 @@ public final class PathTest {
         fewestFirst();
         lesserNumberAtTheFirstPlace();
         everyPlaceMayDiffer();
+        everyNumberAtEveryPlace();
         certificateTwice();
         targetTwice();
         Check.end();
@@ -517,6 +518,39 @@ public final class PathTest {
             Check.due("step, the only one", x.step(5, 0, place), 6, place);
             for (int i = 0; i < 6; i++) {
                 Check.due("step, the others", x.step(5, 0, i), i == place ? 6 : i, place, i);
+            }
+        }
+    }
+
+    /** A path of six among twelve, whose other six lead nowhere. */
+    private static void everyNumberAtEveryPlace() {
+        Check.part("twelve certificates, each of which may stand at each place");
+        for (int shift = 0; shift < 12; shift++) {
+            for (int stride = 1; stride < 12; stride++) {
+                if (stride % 2 == 0 || stride % 3 == 0) {
+                    continue;
+                }
+                TrustPaths x = new TrustPaths();
+                x.anchor(shift % 3, 0);
+                int[] number = new int[LONGEST];
+                for (int c = 0; c < 12; c++) {
+                    // Its place, so that place i has the number (shift + stride * i) % 12.
+                    int place = (c + 12 - shift) * stride % 12;
+                    if (place < LONGEST) {
+                        number[place] = Check.link(x, place, place + 1);
+                    } else {
+                        x.make(8 * 7 + 7, 99);
+                    }
+                }
+                int least = number[0];
+                for (int i = 0; i < LONGEST; i++) {
+                    Check.due("step", x.step(number[5], 100, i), number[i], shift, stride, i);
+                    Check.due("length", x.length(number[i], 100), i + 1, shift, stride, i);
+                    Check.due("depending", x.depending(number[i], 100), 6 - i, shift, stride, i);
+                    Check.due("narrow", x.narrow(number[i], 100), i == 0 ? NONE : least, shift, stride, i);
+                    least = Math.min(least, number[i]);
+                }
+                Check.due("count", x.count(100), 6, shift, stride);
             }
         }
     }

@@ -46,6 +46,8 @@ public final class UnchangedTest {
         all();
         begin("the full object", full());
         all();
+        begin("the full object, the last one held and revoked", fullAndHeld());
+        all();
         Check.end();
     }
 
@@ -59,6 +61,8 @@ public final class UnchangedTest {
         refusedDistrusts();
         refusedQuestions();
         questions();
+        thereAndBack();
+        othersAfterMake();
     }
 
     private static void begin(String name, List<int[]> calls) {
@@ -101,6 +105,14 @@ public final class UnchangedTest {
             call(TIMES, 0, 20, 100), call(TIMES, 2, 0, 50), call(TIMES, 8, 40, 41), call(TIMES, 10, 100, 100),
             call(SET, 1, 4, 3), call(SET, 3, 4, 12), call(SET, 5, 1, 0), call(SET, 4, 2, 127), call(SET, 0, 3, 4),
             call(SET, 11, 0, 0), call(REVOKE, 7, 60), call(REVOKE, 9, 0), call(HOLD, 10, 1), call(HOLD, 6, 0)));
+        return calls;
+    }
+
+    private static List<int[]> fullAndHeld() {
+        List<int[]> calls = full();
+        calls.addAll(list(
+            call(TIMES, 11, 5, 95), call(SET, 11, 1, 2), call(SET, 11, 2, 6), call(SET, 11, 3, 9), call(SET, 11, 4, 8),
+            call(REVOKE, 11, 90), call(HOLD, 11, 1), call(HOLD, 10, 0), call(HOLD, 0, 1), call(DISTRUST, 1)));
         return calls;
     }
 
@@ -397,5 +409,59 @@ public final class UnchangedTest {
         int first = put(x, a);
         Check.due("asked again " + Arrays.toString(a), put(x, a), first);
         dueUnchanged("asked", a);
+    }
+
+    /** A change that is taken back leaves no trace, for it has changed nothing else. */
+    private static void thereAndBack() {
+        int[] most = {1, 4, 255, 255, 15};
+        for (int c = 0; c < made; c++) {
+            for (int what = 0; what < 5; what++) {
+                int was = object(setup).set(c, what, 0);
+                dueUnchanged("back", call(SET, c, what, most[what]), call(SET, c, what, was));
+                dueUnchanged("back", call(SET, c, what, 0), call(SET, c, what, was));
+            }
+            int held = object(setup).hold(c, false);
+            dueUnchanged("back", call(HOLD, c, 1 - held), call(HOLD, c, held));
+            int[] times = timesOf(c);
+            dueUnchanged("back", call(TIMES, c, 43, 44), call(TIMES, c, times[0], times[1]));
+        }
+        for (int a = 0; a < 3; a++) {
+            if (object(setup).anchor(a, 0) == 0) {
+                dueUnchanged("back", call(ANCHOR, a, 21), call(DISTRUST, a));
+            }
+        }
+    }
+
+    private static int[] timesOf(int c) {
+        int[] times = {0, 100};
+        for (int[] a : setup) {
+            if (a[0] == TIMES && a[1] == c) {
+                times = new int[] {a[2], a[3]};
+            }
+        }
+        return times;
+    }
+
+    /** A new certificate to which nothing leads changes no answer about the others. */
+    private static void othersAfterMake() {
+        if (made == 12) {
+            return;
+        }
+        TrustPaths before = object(setup);
+        TrustPaths after = object(setup);
+        Check.due("make", after.make(8 * 7 + 6, 88), made);
+        for (int c = 0; c < made; c++) {
+            for (int t = 0; t <= 100; t += 10) {
+                Check.due("trusted after make", after.trusted(c, t), before.trusted(c, t), c, t);
+            }
+            for (int what = 0; what < 5; what++) {
+                Check.due("set after make", after.set(c, what, 0), before.set(c, what, 0), c, what);
+            }
+            Check.due("hold after make", after.hold(c, false), before.hold(c, false), c);
+            Check.due("revoke after make", after.revoke(c, 0), before.revoke(c, 0), c);
+        }
+        for (int a = 0; a < 3; a++) {
+            Check.due("distrust after make", after.distrust(a), before.distrust(a), a);
+        }
     }
 }
