@@ -13,6 +13,7 @@ public final class CallsTest {
         sameQuestionAlways();
         fullObject();
         slowestQuestions();
+        laterCalls();
         Check.end();
     }
 
@@ -160,5 +161,41 @@ public final class CallsTest {
         x.anchor(2, 1);
         Check.due("count, all twelve", x.count(50), 12);
         Check.due("until", x.until(11, 0), 100);
+    }
+
+    /** What they answer is free, but by LANGUAGE.md no call may ever throw or fail to end. */
+    private static void laterCalls() {
+        Check.part("calls after the 512th");
+        int[] values = {Check.LEAST, -33, -1, 0, 1, 2, 3, 4, 7, 11, 12, 15, 32, 63, 79, 100, 101, 255, Check.GREATEST};
+        TrustPaths x = new TrustPaths();
+        long seed = 1;
+        for (int call = 1; call <= 40 * CALLS; call++) {
+            seed = seed * 6364136223846793005L + 1442695040888963407L;
+            int a = values[(int) (seed >>> 40) % values.length];
+            int b = values[(int) (seed >>> 45) % values.length];
+            int c = values[(int) (seed >>> 50) % values.length];
+            any(x, call % 16, a, b, c);
+        }
+    }
+
+    private static int any(TrustPaths x, int method, int a, int b, int c) {
+        switch (method) {
+            case 0: return x.make(a, b);
+            case 1: return x.times(a, b, c);
+            case 2: return x.set(a, b, c);
+            case 3: return x.revoke(a, b);
+            case 4: return x.hold(a, b < c);
+            case 5: return x.anchor(a, b);
+            case 6: return x.distrust(a);
+            case 7: return x.trusted(a, b);
+            case 8: return x.length(a, b);
+            case 9: return x.step(a, b, c);
+            case 10: return x.policies(a, b);
+            case 11: return x.count(b);
+            case 12: return x.keysOf(a, b, c);
+            case 13: return x.until(a, b);
+            case 14: return x.depending(a, b);
+            default: return x.narrow(a, b);
+        }
     }
 }

@@ -37,6 +37,7 @@ public final class PromiseTest {
         questionsChangeNothing();
         eachPolicyAlone();
         twelveCertificates();
+        exampleOfReadme();
         Check.end();
     }
 
@@ -719,5 +720,21 @@ public final class PromiseTest {
         Check.due("narrow(10, 0)", x.narrow(10, 0), NONE);
         Check.due("depending(10, 0)", x.depending(10, 0), 1);
         Check.due("count(100)", x.count(100), 11);
+    }
+
+    private static void exampleOfReadme() {
+        Check.part("the example of README.md");
+        TrustPaths x = new TrustPaths();
+        x.anchor(0, 10 * 1 + 4);
+        int ca = x.make(8 * 1 + 2, 45);
+        int end = x.make(8 * 2 + 3, 56);
+        x.times(ca, 10, 60);
+        Check.due("trusted(end, 20)", x.trusted(end, 20), 1);
+        Check.due("length(end, 20)", x.length(end, 20), 2);
+        Check.due("step(end, 20, 0)", x.step(end, 20, 0), ca);
+        Check.due("until(end, 20)", x.until(end, 20), 60);
+        Check.due("narrow(end, 20)", x.narrow(end, 20), ca);
+        Check.due("keysOf(3, 20, 0)", x.keysOf(3, 20, 0), 64);
+        Check.due("trusted(end, 61)", x.trusted(end, 61), 0);
     }
 }
